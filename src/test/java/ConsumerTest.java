@@ -143,6 +143,11 @@ public final class ConsumerTest {
         is("impossible from 0 on", z, 0, 0);
         z.change(3, -1023);
         is("not impossible with less", z, 6, 12);
+        FilterProof w = Programs.with(1024, Programs.op(15, 1, 0, 1024, 2), END, END);
+        Programs.say(w, 2, 9, 2, 0, 0, 9, -1024, 0, -1, 1, 1, 1, 16, 0, 1, 9, 3, 0, 2, 1);
+        is("impossible from the packet's length on", w, 0, 0);
+        w.change(17, 1);
+        is("a row that does not begin there", w, 5, 17);
     }
 
     private static void lengths() {
@@ -288,6 +293,7 @@ public final class ConsumerTest {
         step(op(10, 2, 0, 0), false, 0, 0, 1, 0, zero, packet);
         step(op(11, 2, 0, 0), false, 2, 3, 0, 255, zero, scratch);
         step(op(11, 2, 0, 0), false, 3, 0, 3, 0, zero, scratch);
+        step(op(11, 0, 0, 0), false, 0, 0, 1, null, zero, scratch);
         step(op(12, 0, 0, 0), false, 0, 0, 1, 0, zero, scratch);
         step(op(12, 0, 0, 0), false, 2, 0, 1, null, zero, scratch);
     }
@@ -317,6 +323,7 @@ public final class ConsumerTest {
         step(sum, false, 3, 3, 4, null, r2r3, high3);
         step(sum, false, 3, 4, 3, null, r3r2, low3);
         step(sum, false, 0, 3, 0, null);
+        step(op(4, 0, 3, 0), false, 2, 1, 0, null, high3);
         step(op(4, 2, 2, 0), false, 3, 3, 0, null, high2, high3);
         step(op(4, 2, 2, 0), false, 2, 3, 0, null, high2, high3);
         step(op(4, 2, 2, 0), false, 0, 3, 0, null, high2, high3);

@@ -13,6 +13,7 @@ public final class ProducerTest {
 
     public static void main(String[] args) {
         plain();
+        copied();
         joined();
         added();
         impossible();
@@ -59,6 +60,18 @@ public final class ProducerTest {
             0, 1, 0, 1, 1, 0, 1, 0, 1, 1,
             1, 0, 1, 1, 0
         }, 14, Programs.op(15, 1, 0, 20, 1), Programs.op(8, 2, 0, 13, 0), END);
+    }
+
+    private static void copied() {
+        proof("a copy as a place", new int[] {
+            0,
+            2, 0, 3, 0, 3, 0, 15,
+            2, 0, 4, 0, 4, 0, 15,
+            0,
+            0, 1, 1, 1, 0,
+            0, 2, 0, 3, 2, 2, 1,
+            1, 0, 1, 1, 0
+        }, 14, Programs.op(6, 2, 0, 15, 0), Programs.op(2, 3, 2, 0, 0), Programs.op(12, 0, 3, 0, 0), END);
     }
 
     /** Register 2 is 0 in packets of 14 and more, or 3 in packets of 20 and more. */
