@@ -1,6 +1,7 @@
 /** Counts the answers that are not the due ones, and ends a test. */
 final class Due {
     private final String test;
+    private String sentence = "";
     private int wrong;
     private int asked;
 
@@ -8,12 +9,17 @@ final class Due {
         this.test = test;
     }
 
+    /** The words of the document that the answers from here on are held against. */
+    void sentence(String words) {
+        sentence = " \"" + words + "\"";
+    }
+
     void is(String what, long got, long want) {
         asked++;
         if (got != want) {
             wrong++;
             if (wrong <= 50) {
-                System.out.println(test + ": " + what + " answered " + got + ", due is " + want);
+                System.out.println(test + sentence + ": " + what + " answered " + got + ", due is " + want);
             }
         }
     }

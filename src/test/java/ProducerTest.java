@@ -159,7 +159,7 @@ public final class ProducerTest {
     }
 
     /** Each pair of six registers, copied, subtracted and used as a place, needs two facts more. */
-    private static int[][] pairs(int count, int before) {
+    static int[][] pairs(int count, int before) {
         int[] registers = {0, 2, 3, 4, 5, 6};
         List<int[]> filter = new ArrayList<>();
         if (before == 1) {

@@ -41,6 +41,12 @@ final class Programs {
         }
     }
 
+    static void receiveZeros(FilterProof x, int count) {
+        for (int left = count; left > 0; left -= 8) {
+            x.receive(0, Math.min(8, left));
+        }
+    }
+
     static void receive(FilterProof x, int... bytes) {
         for (int b : bytes) {
             x.receive(b, 1);
