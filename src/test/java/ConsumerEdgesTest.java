@@ -37,6 +37,7 @@ public final class ConsumerEdgesTest {
         stepsOfAnEdge();
         stepsOfASum();
         stepsOfManySums();
+        noFactsToAdd();
         whereStepsBegin();
         whereTheLastEnds();
         tooGreat();
@@ -478,7 +479,7 @@ public final class ConsumerEdgesTest {
     }
 
     private static void stepsOfManySums() {
-        DUE.sentence("n + n x + y, with 24 facts");
+        DUE.sentence("n + n x + y, for the facts x, y at i");
         int[] facts = factsAlone(24);
         int[] reasons = reasons(24, 2);
         int[][] two = {{4, 0, 2}, {3, 0, 1}};
@@ -496,6 +497,21 @@ public final class ConsumerEdgesTest {
         noSum(sum, facts, reasons, MIN);
         noSum(sum, facts, reasons, -1);
         noSum(sum, facts, reasons, 23);
+    }
+
+    private static void noFactsToAdd() {
+        DUE.sentence("for the facts x, y at i");
+        // behind the facts of the 4 the tape goes on so that, read as a fact more, it would be (3, 0, 5)
+        int[] head = {2, 4, 0, 2, 1, 0, 0, 2, 7, 0, 3, 0, 5, MAX};
+        int[] tape = join(head, row(6), row(2), new int[] {0});
+        int n = 2;
+        int at = tape.length + 1;
+        FilterProof x = told(join(tape, row(n + n * 3 + 0)), 0, op(4, 2, 3, 0), END);
+        is("a fact behind those at i", x, 4, at);
+        for (int beyond = n; beyond <= 8; beyond++) {
+            x.change(at, n + n * beyond);
+            is("fact " + beyond + " of " + n, x, 4, at);
+        }
     }
 
     private static void whereStepsBegin() {

@@ -218,7 +218,7 @@ public final class FilterEdgesTest {
     }
 
     private static void cleared() {
-        DUE.sentence("The filter has no instructions again: how many it had");
+        DUE.sentence("The filter has no instructions again (tape, packet and what was told stay): how many it had");
         int[] counts = {0, 1, 2, 47, 48};
         for (int count : counts) {
             FilterProof x = new FilterProof(0);

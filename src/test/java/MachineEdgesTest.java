@@ -27,6 +27,7 @@ public final class MachineEdgesTest {
         stepsOfARun();
         registersAtFirst();
         scratchAtFirst();
+        setAndCopied();
         sumsThatAreNoInt();
         masks();
         shifts();
@@ -331,6 +332,16 @@ public final class MachineEdgesTest {
         }
     }
 
+    private static void setAndCopied() {
+        DUE.sentence("1 a becomes k. 2 a becomes b");
+        int[] any = {MIN, MIN + 1, -1, 0, 1, MAX};
+        for (int v : any) {
+            does(5, 6, op(1, v), 0, 0, v);
+            does(5, v, op(2, 0), 0, 0, v);
+            does(v, 6, Programs.op(2, 2, 2, 0, 0), 0, 0, v);
+        }
+    }
+
     private static void sumsThatAreNoInt() {
         DUE.sentence("3 a becomes a + k, 4 a + b, 5 a - b: TRAP 3 when that is no int");
         int[][] sums = {{MAX - 1, 1}, {MAX, 0}, {MIN, MAX}, {MIN + 1, -1}, {MIN, 0}, {0, MIN}, {0, MAX}, {-1, MIN + 1}};
@@ -505,6 +516,11 @@ public final class MachineEdgesTest {
                 jump(16, p, q, 0, p == q);
             }
             jump(13, p, 0, 0, true);
+            for (int op = 13; op <= 16; op++) {
+                FilterProof next = Programs.with(0, Programs.op(1, 2, 0, p, 0), Programs.op(op, 2, 3, 0, 2), END);
+                DUE.is(op + " of " + p + " to the next one", next.run(), 0);
+                DUE.is(op + " of " + p + " to the next one, its steps", next.steps(), 3);
+            }
             FilterProof x = Programs.with(0, Programs.op(1, 2, 0, p, 0), Programs.op(14, 2, 2, 0, 4),
                 Programs.op(2, 0, 0, 0, 0), END, END);
             x.run();

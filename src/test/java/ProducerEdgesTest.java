@@ -43,6 +43,7 @@ public final class ProducerEdgesTest {
         mostFacts();
         greatestPlace();
         mostInstructions();
+        nothingOfEarlierOnes();
         DUE.end();
     }
 
@@ -262,7 +263,9 @@ public final class ProducerEdgesTest {
         }
         no("8 at -1", 1, 1024, op(8, 2, 0, 0, 0), op(8, 3, 2, -1, 0), END);
         no("11 at -1", 1, 1024, op(11, 2, 0, 0, 0), op(8, 3, 2, -1, 0), END);
-        no("9 at -1", 2, 1024, op(9, 2, 0, 0, 0), op(15, 2, 0, 32, 3), op(11, 3, 2, -1, 0), END);
+        for (int k = -1; k <= 1; k++) {
+            is(k == 0, "9 at " + k, 3, 2, op(9, 2, 0, 0, 0), op(15, 2, 0, 32, 3), END, op(11, 3, 2, k, 0), END);
+        }
         int[][] two = {op(9, 2, 0, 0, 0), op(3, 2, 0, 31 - 65535, 0), op(15, 2, 0, 0, 4), op(11, 3, 2, 0, 0), END};
         proven("9, moved", 1024, two);
         two[1][3]++;
@@ -308,8 +311,11 @@ public final class ProducerEdgesTest {
         DUE.sentence("2 with a = b changes nothing; 4 with a = b leaves no fact about a; 14, 16 with a = b give none");
         proven("2 with a = b", 0, op(6, 2, 0, 31, 0), op(2, 2, 2, 0, 0), op(12, 0, 2, 0, 0), END);
         no("4 with a = b", 2, 0, op(6, 2, 0, 1, 0), op(4, 2, 2, 0, 0), op(12, 0, 2, 0, 0), END);
-        proven("5 with a = b", 0, op(7, 2, 0, 1, 0), op(5, 2, 2, 0, 0), op(12, 0, 2, 31, 0), END);
-        no("5 with a = b, at 32", 2, 0, op(7, 2, 0, 1, 0), op(5, 2, 2, 0, 0), op(12, 0, 2, 32, 0), END);
+        int[] places = {-1, 0, 31, 32};
+        for (int k : places) {
+            is(k >= 0 && k <= 31, "5 with a = b, at " + k, 2, 0, op(7, 2, 0, 1, 0), op(5, 2, 2, 0, 0),
+                op(12, 0, 2, k, 0), END);
+        }
         no("14 with a = b, to t", 2, 0, op(14, 2, 2, 0, 2), END, NEVER, END);
         no("14 with a = b, to the next one", 1, 0, op(14, 2, 2, 0, 2), NEVER, END);
         no("16 with a = b, to t", 2, 0, op(16, 2, 2, 0, 2), END, NEVER, END);
@@ -469,12 +475,12 @@ public final class ProducerEdgesTest {
     }
 
     /** An edge is impossible by a row that goes round once for each number that register 2 may be. */
-    private static int[][] rounds(int most) {
+    static int[][] rounds(int most) {
         return new int[][] {op(6, 2, 0, most, 0), op(6, 3, 0, most, 0), op(14, 2, 3, 0, 4), op(14, 2, 3, 0, 4), END};
     }
 
     private static void longestRows() {
-        DUE.sentence("of the fewest steps (at most 12) .. For an impossible edge: the least x that has such a row");
+        DUE.sentence("of the fewest steps (at most 12) whose row gives so much or less");
         proof("11 steps from point 0", new int[] {
             0, 1, 0, 3, 0, 2, 0, 3, 0, 4, 0, 4, 3, 0, 3, 0, 4, 0, 4, 4, 3, 0, 0,
             0, 1, 1,
@@ -530,5 +536,28 @@ public final class ProducerEdgesTest {
         FilterProof x = Programs.with(14, allOf(op(8, 2, 0, 13, 0)));
         // 2 facts and 9 or 5 ints of reasons for each load, 5 for the beginning, 1 for the RETURN
         DUE.is("ints of 47 loads", x.prove(), 46 * (7 + 9) + (7 + 5) + 5 + 1);
+    }
+
+    private static void again(FilterProof x, String name, int answer, int[]... filter) {
+        x.clear();
+        for (int[] i : filter) {
+            x.instruction(i[0], i[1], i[2], i[3], i[4]);
+        }
+        DUE.is(name + ": prove()", x.prove(), answer);
+        DUE.is(name + ": check()", x.check(), answer > 0 ? 0 : answer == BAD ? -1 : -2);
+    }
+
+    private static void nothingOfEarlierOnes() {
+        DUE.sentence("THE PRODUCER takes a filter that is well made");
+        FilterProof x = new FilterProof(14);
+        for (int round = 0; round < 2; round++) {
+            again(x, "four that are reached", 4 + 3, op(1, 2, 0, 5000, 0), op(1, 3, 0, 1, 0), op(1, 4, 0, 1, 0), END);
+            again(x, "all but the first are dead", 4, END, NEVER, NEVER, END);
+            again(x, "a bound that the first filter had not", 18, op(8, 2, 0, 3, 0), END);
+            again(x, "none", BAD);
+            again(x, "no proof", NO, op(8, 2, 0, 14, 0), END);
+            again(x, "impossible to t", 16, op(15, 1, 0, 14, 2), END, NEVER, END);
+            again(x, "impossible to the next one", 15, op(15, 1, 0, 1025, 2), NEVER, END);
+        }
     }
 }

@@ -21,6 +21,8 @@ public final class RandomTest {
     private int impossible;
     private int belowInts;
     private int crowded;
+    private FilterProof used;
+    private int usedLeast;
 
     private RandomTest(long seed) {
         random = new Random(seed);
@@ -158,10 +160,32 @@ public final class RandomTest {
             due.is(name + " check() by the naive", naive.check(want), 0);
             changedTapes(name, x, naive, want);
         }
+        usedAgain(name, n, filter);
         belowInts += naive.belowInts ? 1 : 0;
         if (!bad) {
             packets(name, x, naive, least, want != null);
         }
+    }
+
+    /** An object that has had other filters before answers as a new one does. */
+    private void usedAgain(String name, int n, int[][] filter) {
+        if (n % 4 == 0) {
+            usedLeast = pick(LEASTS);
+            used = new FilterProof(usedLeast);
+        }
+        used.clear();
+        for (int[] i : filter) {
+            used.instruction(i[0], i[1], i[2], i[3], i[4]);
+        }
+        FilterProof fresh = Programs.with(usedLeast, filter);
+        int proven = fresh.prove();
+        due.is(name + " prove() of a used one", used.prove(), proven);
+        due.is(name + " place() of a used one", used.place(), fresh.place());
+        for (int k = 0; k < 50 && proven > 0; k++) {
+            int i = random.nextInt(proven);
+            due.is(name + " at(" + i + ") of a used one", used.at(i), fresh.at(i));
+        }
+        due.is(name + " check() of a used one", used.check(), fresh.check());
     }
 
     private void changedTapes(String name, FilterProof x, NaiveProof naive, List<Integer> proof) {
