@@ -37,6 +37,7 @@ public final class ProducerEdgesTest {
         boundsBeyondInts();
         sumsBeyondInts();
         rowsBeyondInts();
+        joinedBeyondInts();
         stepsBeyondInts();
         needsWithoutBounds();
         longestRows();
@@ -433,6 +434,16 @@ public final class ProducerEdgesTest {
         for (int b = 1; b <= 2; b++) {
             is(b == 1, "a row that gives MIN or less, " + b, 4, 14, op(1, 2, 0, -MAX, 0), op(1, 3, 0, b, 0),
                 op(5, 2, 3, 0, 0), op(15, 2, 0, MIN + 1, 5), NEVER, END);
+        }
+    }
+
+    private static void joinedBeyondInts() {
+        DUE.sentence("(none where one has none)");
+        // register 2 less register 3 is MIN on one way; on the other MIN, or less than ints can tell
+        for (int b = 1; b <= 2; b++) {
+            is(b == 1, "MIN, and MIN - " + (b - 1), 8, 14, op(8, 4, 0, 0, 0), op(1, 2, 0, -MAX, 0), op(15, 4, 0, 9, 5),
+                op(1, 3, 0, 1, 0), op(13, 0, 0, 0, 6), op(1, 3, 0, b, 0), op(5, 2, 3, 0, 0), op(15, 2, 0, MIN + 1, 9),
+                NEVER, END);
         }
     }
 
