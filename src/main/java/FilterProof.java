@@ -63,7 +63,7 @@ public final class FilterProof {
     private static final int FURTHER = PAIRS;
     private static final int MOST_FURTHER = 2;
     /** No bound at all; greater than every sum, so that the greatest of two bounds is none if one is. */
-    private static final long NONE = Long.MAX_VALUE;
+    private static final long NONE = 1L << 62;
 
     private final Filter filter;
     private final Tape tape;
@@ -602,21 +602,25 @@ public final class FilterProof {
             return false;
         }
 
-        private boolean readInt(int lowest, int highest) {
+        private boolean readAny() {
             if (next >= tape.size) {
                 return refuse(FAULT_END, tape.size);
             }
             latest = tape.get(next);
-            if (latest < lowest || latest > highest) {
-                return refuse(FAULT_NUMBER, next);
-            }
             next++;
             return true;
         }
 
+        private boolean readWithin(int lowest, int highest) {
+            if (!readAny()) {
+                return false;
+            }
+            return latest >= lowest && latest <= highest || refuse(FAULT_NUMBER, next - 1);
+        }
+
         private boolean readFacts() {
             for (int i = 0; i < filter.count; i++) {
-                if (!readInt(DEAD, MOST_FACTS)) {
+                if (!readWithin(DEAD, MOST_FACTS)) {
                     return false;
                 }
                 factCount[i] = latest;
@@ -631,17 +635,17 @@ public final class FilterProof {
         }
 
         private boolean readFact() {
-            if (!readInt(0, POINTS - 1)) {
+            if (!readWithin(0, POINTS - 1)) {
                 return false;
             }
             int u = latest;
-            if (!readInt(0, POINTS - 1)) {
+            if (!readWithin(0, POINTS - 1)) {
                 return false;
             }
             if (latest == u) {
                 return refuse(FAULT_NUMBER, next - 1);
             }
-            return readInt(Integer.MIN_VALUE, Integer.MAX_VALUE);
+            return readAny();
         }
 
         private boolean readAccess(int i) {
@@ -657,7 +661,7 @@ public final class FilterProof {
         private boolean readEdges(int i) {
             Instruction now = filter.instructions[i];
             for (int edge = 0; edge < now.edgeCount(); edge++) {
-                if (!readInt(0, 1)) {
+                if (!readWithin(0, 1)) {
                     return false;
                 }
                 int end = now.edgeEnd(i, edge);
@@ -666,7 +670,7 @@ public final class FilterProof {
                 }
                 boolean sound = latest == 0
                         ? readReasonsFor(end, i, edge)
-                        : readInt(0, POINTS - 1) && readReason(i, edge, latest, latest, -1);
+                        : readWithin(0, POINTS - 1) && readReason(i, edge, latest, latest, -1);
                 if (!sound) {
                     return false;
                 }
@@ -687,14 +691,14 @@ public final class FilterProof {
 
         private boolean readReason(int i, int edge, int from, int to, long most) {
             int head = next;
-            if (!readInt(1, MOST_STEPS)) {
+            if (!readWithin(1, MOST_STEPS)) {
                 return false;
             }
             int steps = latest;
             int point = from;
             long sum = 0;
             for (int left = steps; left > 0; left--) {
-                if (!readInt(Integer.MIN_VALUE, Integer.MAX_VALUE)) {
+                if (!readAny()) {
                     return false;
                 }
                 if (!findStep(i, edge, latest)) {
